@@ -506,13 +506,16 @@ public final class PromiseTest {
         due("21 below", x.apart(0, 1, -1), NONE);
         x.shift(1, 10, 0);
         due("21 put right", x.apart(0, 1, 6), 2500);
+        x.shift(0, 10, 0);
+        x.shift(1, 0, 0);
+        due("21 put right, at another moment", x.apart(0, 1, 4), 97 * 97 + 1600);
         x.drop(3);
         due("21 by moments", x.apart(0, 1, 6), 54 * 54 + 1600);
     }
 
     private static void near() {
         WhoIsWho x = twoTracks();
-        due("22 at once", x.near(0, 1, 200), 4);
+        due("22 at once, ahead of any other question", x.near(0, 1, 200), 4);
         due("22 later", x.near(0, 1, 50), 6);
         due("22 the other way", x.near(1, 0, 50), 6);
         due("22 never", x.near(0, 1, 49), NONE);
@@ -524,6 +527,11 @@ public final class PromiseTest {
         due("22 no such track", x.near(0, 2, 5), NONE);
         due("22 none ahead of bad", x.near(2, 2, 5), NONE);
         due("22 none ahead of bad d", x.near(-1, 0, 1001), NONE);
+
+        x = watched(1);
+        tell(x, 0, 5, 0, 0, 1, 90, 0, 2);
+        tell(x, 0, 8, 40, 0, 1, 40, 0, 2);
+        due("22 at one place", x.near(0, 1, 0), 8);
     }
 
     private static void pairsAndLevel() {
@@ -565,7 +573,9 @@ public final class PromiseTest {
         tell(x, 0, 3, 0, 0, 1);
         tell(x, 1, 3, 4, -3, 1);
         tell(x, 2, 3, 100, 0, 1);
+        due("25 cost as told", x.cost(0), 5900 + 25);
         due("25 both", x.right(0, 1), 2);
+        due("25 cost put right", x.cost(0), 5900);
         due("25 neither", x.right(0, 1), 0);
         x.shift(1, -4, 0);
         due("25 the second", x.right(0, 1), 1);
@@ -586,6 +596,7 @@ public final class PromiseTest {
         tell(x, 0, 0, 0, 0, 1, 300, 0, 0);
         tell(x, 1, 1, 0, 0, 1, 0, 0, 1);
         x.dot(0, 0, 0);
+        due("26 ahead of any other question", x.count(5), 3);
         due("26 watchers", x.count(0), 2);
         due("26 scans", x.count(1), 2);
         due("26 wait", x.count(2), 1);
