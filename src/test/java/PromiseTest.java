@@ -1,22 +1,5 @@
 /** Every promise of the document on its own: ordinary inputs, named edges, wrong inputs. */
-public final class PromiseTest {
-    private static final int NONE = -1;
-    private static final int BAD = -2;
-    private static final int STATE = -3;
-    private static final int FULL = -4;
-    private static final int NO = Integer.MIN_VALUE;
-
-    private static int checks = 0;
-    private static int wrong = 0;
-
-    private static void due(String call, int got, int want) {
-        checks++;
-        if (got != want) {
-            wrong++;
-            System.out.println(call + " answered " + got + ", due is " + want);
-        }
-    }
-
+public final class PromiseTest extends Checks {
     public static void main(String[] args) {
         newObject();
         watcher();
@@ -46,26 +29,7 @@ public final class PromiseTest {
         gateAndMarks();
         tiesAndOrderOfWorlds();
         refusalsChangeNothing();
-        System.out.println(checks + " checks, " + wrong + " wrong");
-        if (wrong != 0) {
-            System.exit(1);
-        }
-    }
-
-    private static WhoIsWho watched(int watchers) {
-        WhoIsWho x = new WhoIsWho();
-        for (int w = 0; w < watchers; w++) {
-            x.watcher();
-        }
-        return x;
-    }
-
-    /** A scan of watcher w at a moment; three numbers a dot: x, y, mark. */
-    private static int tell(WhoIsWho x, int w, int moment, int... dots) {
-        for (int i = 0; i + 2 < dots.length; i += 3) {
-            x.dot(dots[i], dots[i + 1], dots[i + 2]);
-        }
-        return x.scan(w, moment);
+        end();
     }
 
     private static void newObject() {
