@@ -179,6 +179,7 @@ public final class NameEdgesTest extends Checks {
         x.scan(1, 3);
         due("now it is", x.pairs(0, 1), 2);
         x.drop(3);
+        x.scan(0, 500);
         x.dot(1, 1, 4);
         due("nor one that waits behind a SCAN taken away", x.pairs(0, 1), 0);
         due("the other way", x.pairs(1, 0), 0);
