@@ -38,6 +38,7 @@ public final class FaceTest {
         members();
         constants();
         words();
+        shape();
         nothingIsMadeByCalls();
         System.out.println(wrong + " wrong");
         if (wrong != 0) {
@@ -90,6 +91,45 @@ public final class FaceTest {
         for (String word : RULED_OUT) {
             Matcher m = Pattern.compile(word).matcher(bare);
             check(!m.find(), "the source has " + word);
+        }
+    }
+
+    /** Rules 2, 5 and 11: how many classes, fields and parameters, how long a method, which statics. */
+    private static void shape() throws Exception {
+        Class<?>[] inner = WhoIsWho.class.getDeclaredClasses();
+        check(inner.length < 12, "the file has more than 12 classes");
+        shapeOf(WhoIsWho.class);
+        for (Class<?> c : inner) {
+            check(!Modifier.isPublic(c.getModifiers()) && !Modifier.isProtected(c.getModifiers()),
+                    c + " is public or protected");
+            check(!c.isAnonymousClass() && !c.isLocalClass(), c + " is local or anonymous");
+            check(c.getDeclaredClasses().length == 0, c + " has classes inside that are not looked at");
+            shapeOf(c);
+        }
+        String source = Files.readString(Path.of("src/main/java/WhoIsWho.java"));
+        Matcher method = Pattern.compile("(?m)^( {4}| {8})\\w[^;=\\n]*\\) \\{\\n(?s:.*?)^\\1\\}").matcher(source);
+        int found = 0;
+        while (method.find()) {
+            found++;
+            long lines = method.group().lines().count();
+            check(lines <= 60, lines + " lines: " + method.group().lines().findFirst().orElse(""));
+        }
+        check(found > 60, "only " + found + " methods were found in the source");
+    }
+
+    private static void shapeOf(Class<?> c) {
+        int fields = 0;
+        for (Field f : c.getDeclaredFields()) {
+            if (Modifier.isStatic(f.getModifiers())) {
+                check(Modifier.isFinal(f.getModifiers()), f + " is static and not final");
+                check(f.getType() == int.class || f.getType() == int[].class, f + " is no int or row of ints");
+            } else {
+                fields++;
+            }
+        }
+        check(fields <= 20, c + " has " + fields + " fields");
+        for (Method m : c.getDeclaredMethods()) {
+            check(m.getParameterCount() <= 7, m + " has too many parameters");
         }
     }
 

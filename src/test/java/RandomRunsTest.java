@@ -6,8 +6,9 @@ import java.util.Random;
 
 /** Runs of calls, the same each time, on the class and on the plain model side by side. */
 public final class RandomRunsTest {
-    private static final int RUNS = 400;
-    private static final int CALLS = 300;
+    private static final int RUNS = 288;
+    // As many as an object is promised to serve.
+    private static final int CALLS = 512;
     private static final int[] ODD = {
         Integer.MIN_VALUE, Integer.MAX_VALUE, -1001, 1001, -51, 51, -1, 999, 1000, 100000, 100001
     };
@@ -40,9 +41,14 @@ public final class RandomRunsTest {
         // Narrow fields make many dots fit many tracks; wide ones make few fit any.
         int field = new int[] {5, 40, 150, 1000}[run % 4];
         int moments = new int[] {4, 12, 60, 1000}[run / 4 % 4];
+        // Few different costs make many worlds cost alike.
+        boolean alike = run / 16 % 3 == 2;
         for (int i = 0; i < CALLS; i++) {
             Method call = pick(chance, calls);
             Object[] with = arguments(chance, call, field, moments);
+            if (call.getName().equals("rule") && chance.nextInt(30) != 0) {
+                with[1] = alike ? ruledAlike(chance, (int) with[0]) : ruled(chance, (int) with[0]);
+            }
             Method twin = PlainModel.class.getDeclaredMethod(call.getName(), call.getParameterTypes());
             int got = (int) call.invoke(x, with);
             int want = (int) twin.invoke(model, with);
@@ -74,9 +80,6 @@ public final class RandomRunsTest {
             with[i] = chance.nextInt(60) == 0
                     ? ODD[chance.nextInt(ODD.length)]
                     : ordinary(chance, call.getName(), i, field, moments);
-        }
-        if (call.getName().equals("rule")) {
-            with[1] = chance.nextInt(30) == 0 ? with[1] : ruled(chance, (int) with[0]);
         }
         return with;
     }
@@ -126,5 +129,10 @@ public final class RandomRunsTest {
             default:
                 return chance.nextInt(5) == 0 ? 0 : chance.nextInt(3) * 500 + chance.nextInt(6000);
         }
+    }
+
+    private static int ruledAlike(Random chance, int what) {
+        boolean isCost = what >= 1 && what <= 3;
+        return isCost ? chance.nextInt(2) * chance.nextInt(3) * 1000 : ruled(chance, what);
     }
 }
